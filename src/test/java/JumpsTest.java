@@ -12,6 +12,8 @@ public final class JumpsTest {
         promise20Way();
         promise20WayOfLikeOnes();
         promise20WayThereIsNone();
+        promise20WayBySetsAlone();
+        promise20WayToTheLastHeight();
         CHECK.end();
     }
 
@@ -112,6 +114,9 @@ public final class JumpsTest {
         isWay(x, 1, 2, 4, 5);
         isWay(x, 2, 4, 5);
         isWay(x, 4, 5);
+        isWay(x, 1, 2, 4);
+        isWay(x, 1, 2, 3);
+        isWay(x, 3, 4);
         for (int height : new int[] {-1, 6, 101, LEAST, MOST}) {
             due("from no HEIGHT", x.way(height, 5, 0), BAD);
             due("to no HEIGHT", x.way(1, height, 0), BAD);
@@ -126,6 +131,8 @@ public final class JumpsTest {
         // By way of 3 the next one can only be 4, by way of 2 it could be 5: the first one decides.
         isWay(withSets(new int[] {10, 10, 10, 10, 10}, 1, 9, 3, 18, 24, 16), 1, 3, 4, 6);
         isWay(withSets(new int[] {1, 1, 1}, 7, 7, 7, 7), 1, 4);
+        // By way of 4 it would be a JUMP more: fewer ones come first.
+        isWay(withSets(new int[] {10, 10, 10, 10}, 1, 5, 8, 3, 6, 4), 1, 2, 6);
     }
 
     private static void promise20WayThereIsNone() {
@@ -140,5 +147,26 @@ public final class JumpsTest {
         due("BAD for HEIGHTS is ahead of NONE", x.way(1, 5, -1), BAD);
         NodeWeights third = withSets(new int[] {10, 10, 10}, 7, 1);
         due("just a third", third.way(1, 2, -1), NONE);
+    }
+
+    private static void promise20WayBySetsAlone() {
+        // NODE 0 is IN at 2 without a STAKE: it has no WEIGHT there, so the JUMP is not by it.
+        NodeWeights x = withSets(new int[] {10, 1}, 3);
+        x.draw(0, 0, 10);
+        x.advance(1);
+        due("by both", x.jump(1, 2, 3), 1);
+        due("by the one with a WEIGHT", x.jump(1, 2, 2), 0);
+        due("way(1, 2, -1)", x.way(1, 2, -1), NONE);
+    }
+
+    private static void promise20WayToTheLastHeight() {
+        NodeWeights x = withSets(new int[] {10, 10, 10}, 1, 3);
+        x.advance(97);
+        x.freeze(0, true);
+        x.advance(1);
+        isWay(x, 1, 99, 100);
+        isWay(x, 50, 100);
+        due("overlap(1, 100)", x.overlap(1, 100), 0);
+        due("way(1, 101, 0)", x.way(1, 101, 0), BAD);
     }
 }

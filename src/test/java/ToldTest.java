@@ -20,6 +20,8 @@ public final class ToldTest {
         promise10Rewards();
         promise10RewardsByRest();
         promise10OrderOfANewHeight();
+        promise10RewardsOfOneNodeOfTwo();
+        promise10PotHalvedAway();
         CHECK.end();
     }
 
@@ -313,6 +315,7 @@ public final class ToldTest {
         due("POT at 3", x.reward(0, 3), 50);
         x.advance(1);
         due("POT at 4 is halved twice", x.reward(0, 4), 25);
+        due("reward(-1, 3) is that HEIGHT's alone", x.reward(-1, 3), 50);
         due("count(3)", x.count(3), 101 + 50 + 50 + 25);
     }
 
@@ -367,5 +370,42 @@ public final class ToldTest {
         x.advance(1);
         due("no REWARDS of 2 for it", x.reward(0, 2), 0);
         due("all of 2 to the other", x.reward(1, 2), 100);
+    }
+
+    private static void promise10RewardsOfOneNodeOfTwo() {
+        NodeWeights x = new NodeWeights();
+        for (int node = 0; node < 3; node++) {
+            x.node(9, 0);
+            x.join(node);
+        }
+        x.fund(0, 1);
+        x.stake(0, 1, 1);
+        x.advance(2);
+        due("ALL of 1 is enough", x.weight(-1, 1), 1);
+        due("all to the one with a WEIGHT", x.reward(1, 1), 100);
+        due("nothing to one without STAKES", x.reward(2, 1), 0);
+        due("balance(0)", x.balance(0), 100);
+        due("count(4)", x.count(4), 100);
+        x.draw(0, 1, 1);
+        x.advance(2);
+        due("no WEIGHTS, no REWARDS", x.reward(-1, 3), 0);
+        due("balance(0): REWARDS of 2, and what was DRAWN", x.balance(0), 201);
+    }
+
+    private static void promise10PotHalvedAway() {
+        NodeWeights x = new NodeWeights();
+        x.rule(1, 10_000);
+        x.rule(2, 1);
+        x.node(0, 50);
+        x.fund(0, 1);
+        x.stake(0, 0, 1);
+        x.join(0);
+        x.advance(100);
+        for (int height = 1; height < 100; height++) {
+            due("POT of " + height, x.reward(0, height), height > 13 ? 0 : 10_000 / (1 << height));
+        }
+        due("weight at HEIGHT 100", x.weight(0, 100), 1);
+        due("CERTIFICATE of HEIGHT 100", x.judge(100, 1), 1);
+        due("count(3) is what came to BALANCES", x.balance(0), x.count(3));
     }
 }
