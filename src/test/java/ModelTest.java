@@ -1,6 +1,6 @@
 import java.util.Random;
 
-/** Runs of 512 calls on new objects, each answer against the model's; the seeds are fixed, so each run is the same. */
+/** Runs of at most 512 calls on new objects, each answer against the model's; the seeds are fixed, so each run is the same. */
 public final class ModelTest {
     private static final int RUNS = 1500, CALLS = 512;
     private static final int[] ODD = {Integer.MIN_VALUE, -1000, -2, -1, 0, 1, 8, 9, 10, 100, 101, 110, 256, Integer.MAX_VALUE};
