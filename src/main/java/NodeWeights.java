@@ -125,7 +125,7 @@ public final class NodeWeights {
 
     public int drawn(int account, int height) {
         if (!isAccount(account)) return BAD;
-        if (height == IN_ALL) return book.dueBehind(account, now);
+        if (height == IN_ALL) return book.dueOfAccount(account);
         return isWithin(height, 1, LAST_DUE) ? book.due[duePlace(account, height)] : BAD;
     }
 
@@ -188,7 +188,7 @@ public final class NodeWeights {
             case 3: return book.rewarded;
             case 4: return book.allBalances();
             case 5: return book.allStakes();
-            case 6: return book.allDueBehind(now);
+            case 6: return book.allDue();
             case 7: return rules[WAIT];
             case 8: return rules[REWARD];
             case 9: return rules[HALVING];
@@ -286,12 +286,14 @@ public final class NodeWeights {
         int rewarded;
         final int[] balance = new int[ACCOUNTS];
         final int[] stakes = new int[NODES * ACCOUNTS];
-        // Stays as it is when it has been paid: the document asks for it by any HEIGHT, not only by later ones.
+        // Only what still waits: what has come to BALANCES is no longer DRAWN.
         final int[] due = new int[ACCOUNTS * (LAST_DUE + 1)];
 
         void payDue(int h) {
             for (int account = 0; account < ACCOUNTS; account++) {
-                balance[account] += due[duePlace(account, h)];
+                int place = duePlace(account, h);
+                balance[account] += due[place];
+                due[place] = 0;
             }
         }
 
@@ -307,9 +309,9 @@ public final class NodeWeights {
             return sum;
         }
 
-        int dueBehind(int account, int h) {
+        int dueOfAccount(int account) {
             int sum = 0;
-            for (int later = h + 1; later <= LAST_DUE; later++) sum += due[duePlace(account, later)];
+            for (int h = 1; h <= LAST_DUE; h++) sum += due[duePlace(account, h)];
             return sum;
         }
 
@@ -325,9 +327,9 @@ public final class NodeWeights {
             return sum;
         }
 
-        int allDueBehind(int h) {
+        int allDue() {
             int sum = 0;
-            for (int account = 0; account < ACCOUNTS; account++) sum += dueBehind(account, h);
+            for (int account = 0; account < ACCOUNTS; account++) sum += dueOfAccount(account);
             return sum;
         }
     }

@@ -212,8 +212,8 @@ final class Model {
         if (height != -1 && (height < 1 || height > 109)) return BAD;
         int all = 0;
         for (Draw d : draws) {
-            boolean asked = height == -1 ? d.due > height() : d.due == height;
-            if (d.account == account && asked) all += d.v;
+            boolean waits = d.due > height();
+            if (d.account == account && waits && (height == -1 || d.due == height)) all += d.v;
         }
         return all;
     }

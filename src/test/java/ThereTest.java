@@ -8,6 +8,7 @@ public final class ThereTest {
         promise11Balance();
         promise12Staked();
         promise13Drawn();
+        promise13DrawnAtTheEnds();
         promise14About();
         promise15Weight();
         promise16Reward();
@@ -77,13 +78,48 @@ public final class ThereTest {
         due("drawn(6, -1)", x.drawn(6, -1), 2);
         x.advance(1);
         due("drawn(5, -1): what is not due yet", x.drawn(5, -1), 9);
-        due("drawn(5, 2): what it has DRAWN that is due at 2", x.drawn(5, 2), 7);
+        due("drawn(5, 2): it has come to BALANCES", x.drawn(5, 2), 0);
+        due("drawn(5, 3): still waits", x.drawn(5, 3), 9);
+        due("drawn(6, 2): it has come to BALANCES", x.drawn(6, 2), 0);
         due("drawn(6, -1)", x.drawn(6, -1), 0);
+        x.advance(5);
+        for (int height = 1; height <= 109; height++) due("nothing waits at " + height, x.drawn(5, height), 0);
         for (int account : new int[] {-1, 10, LEAST, MOST}) {
             due("drawn(" + account + ", 1)", x.drawn(account, 1), BAD);
             due("drawn(" + account + ", -1)", x.drawn(account, -1), BAD);
         }
         for (int height : new int[] {0, -2, 110, LEAST, MOST}) due("drawn(5, " + height + ")", x.drawn(5, height), BAD);
+    }
+
+    private static void promise13DrawnAtTheEnds() {
+        NodeWeights x = new NodeWeights();
+        x.rule(0, 1);
+        x.node(3, 0);
+        x.fund(5, 10);
+        x.stake(5, 0, 10);
+        x.draw(5, 0, 4);
+        due("drawn(5, 1): WAIT 1", x.drawn(5, 1), 4);
+        x.advance(1);
+        due("drawn(5, 1): it has come to BALANCES", x.drawn(5, 1), 0);
+        due("balance(5)", x.balance(5), 4);
+
+        NodeWeights y = new NodeWeights();
+        y.rule(0, 9);
+        y.node(3, 0);
+        y.fund(5, 10);
+        y.stake(5, 0, 10);
+        y.advance(91);
+        y.draw(5, 0, 1);
+        y.advance(8);
+        y.draw(5, 0, 2);
+        due("drawn(5, 100) at 99", y.drawn(5, 100), 1);
+        y.advance(1);
+        y.draw(5, 0, 3);
+        due("drawn(5, 100) at 100", y.drawn(5, 100), 0);
+        due("drawn(5, 108) never comes", y.drawn(5, 108), 2);
+        due("drawn(5, 109) never comes", y.drawn(5, 109), 3);
+        due("drawn(5, -1)", y.drawn(5, -1), 5);
+        due("count(6)", y.count(6), 5);
     }
 
     private static void promise14About() {
