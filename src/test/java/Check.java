@@ -1,6 +1,8 @@
 /** Counts answers that are not as due, and ends a test with exit code 1 if there was one. */
 final class Check {
     private final String name;
+    private String sentence = "";
+    private int sentences = 0;
     private int seen = 0;
     private int wrong = 0;
 
@@ -8,11 +10,17 @@ final class Check {
         this.name = name;
     }
 
+    /** The sentence of the document that the next answers are about. */
+    void sentence(String text) {
+        sentence = " [" + text + "]";
+        sentences++;
+    }
+
     void due(String what, long got, long want) {
         seen++;
         if (got == want) return;
         wrong++;
-        if (wrong <= 40) System.out.println(name + ": " + what + " answered " + got + ", due is " + want);
+        if (wrong <= 40) System.out.println(name + sentence + ": " + what + " answered " + got + ", due is " + want);
     }
 
     void holds(String what, boolean it) {
@@ -24,7 +32,8 @@ final class Check {
     }
 
     void end() {
-        System.out.println(name + ": " + seen + " answers, " + wrong + " not as due");
+        String of = sentences == 0 ? "" : sentences + " sentences, ";
+        System.out.println(name + ": " + of + seen + " answers, " + wrong + " not as due");
         if (wrong != 0 || seen == 0) System.exit(1);
     }
 }

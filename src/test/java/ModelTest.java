@@ -3,7 +3,8 @@ import java.util.Random;
 /** Runs of at most 512 calls on new objects, each answer against the model's; the seeds are fixed, so each run is the same. */
 public final class ModelTest {
     private static final int RUNS = 1500, CALLS = 512;
-    private static final int[] ODD = {Integer.MIN_VALUE, -1000, -2, -1, 0, 1, 8, 9, 10, 100, 101, 110, 256, Integer.MAX_VALUE};
+    private static final int[] ODD = {Integer.MIN_VALUE, -1000, -2, -1, 0, 1, 7, 8, 9, 10, 11, 50, 51, 99, 100, 101, 109, 110, 255, 256,
+        10_000, 10_001, 100_000, 100_001, 1_000_000, 1_000_001, Integer.MAX_VALUE};
     private static final Check CHECK = new Check("ModelTest");
 
     private final Random random;
